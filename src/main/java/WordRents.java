@@ -493,10 +493,6 @@ public final class WordRents {
         return isFirm(speaker) || speaker == NOBODY;
     }
 
-    private static boolean isIn(int words, int word) {
-        return word >= 0 && word < WORDS && (words >> word & 1) == 1;
-    }
-
     private static int sortAt(int place) {
         if (place == 1) {
             return VERB;
@@ -633,7 +629,7 @@ public final class WordRents {
         }
 
         boolean has(int word) {
-            return word >= 0 && word < WORDS && (there >> word & 1) == 1;
+            return word >= 0 && word < WORDS && (there & 1 << word) != 0;
         }
 
         void put(int word, int itsSort, int itsMeaning, int itsRhyme, int itsRent) {
@@ -654,7 +650,7 @@ public final class WordRents {
         }
 
         boolean isOfSort(int word, int itsSort) {
-            return has(word) && sort[word] == itsSort;
+            return word >= 0 && word < WORDS && (there & 1 << word) != 0 && sort[word] == itsSort;
         }
 
         int sortOf(int word) {
@@ -720,7 +716,8 @@ public final class WordRents {
         // -- FAR
 
         int between(int one, int other) {
-            return isMeaning(one) && isMeaning(other) ? apart[one * MEANINGS + other] : 0;
+            boolean both = one >= 0 && one < MEANINGS && other >= 0 && other < MEANINGS;
+            return both ? apart[one * MEANINGS + other] : 0;
         }
 
         void part(int one, int other, int v) {
@@ -731,7 +728,7 @@ public final class WordRents {
         }
 
         int betweenWords(int word, int other) {
-            return between(meaningOf(word), meaningOf(other));
+            return has(word) && has(other) ? between(meaning[word], meaning[other]) : 0;
         }
 
         // -- RENTS
@@ -740,16 +737,12 @@ public final class WordRents {
         int costing(int words, int speaker) {
             int owed = 0;
             for (int word = 0; word < WORDS; word++) {
-                if (isIn(words, word) && costOf(word) > 0 && holder[word] != speaker) {
+                boolean theirs = holder[word] != NOBODY && holder[word] != speaker;
+                if ((words & there & 1 << word) != 0 && theirs && rent[word] > 0) {
                     owed |= 1 << word;
                 }
             }
             return owed;
-        }
-
-        /** What a WORD costs those who do not hold it. */
-        int costOf(int word) {
-            return has(word) && holder[word] != NOBODY ? rent[word] : 0;
         }
 
         int allRents() {
@@ -831,9 +824,11 @@ public final class WordRents {
                 return false;
             }
             for (int other = 0; other < WORDS; other++) {
-                if (has(other) && sort[other] == sort[word] && holder[other] != holder[word]
-                        && costOf(other) < rent[word] && between(meaning[word], meaning[other]) < 2) {
-                    return true;
+                if ((there & 1 << other) != 0 && sort[other] == sort[word] && holder[other] != holder[word]) {
+                    int cost = holder[other] == NOBODY ? 0 : rent[other];
+                    if (cost < rent[word] && between(meaning[word], meaning[other]) < 2) {
+                        return true;
+                    }
                 }
             }
             return false;
@@ -971,7 +966,7 @@ public final class WordRents {
             findDearest(republic, owed);
             int sum = 0;
             for (int word = 0; word < WORDS; word++) {
-                if (isIn(owed, word) && (firm == NOBODY || republic.holderOf(word) == firm)) {
+                if ((owed & 1 << word) != 0 && (firm == NOBODY || republic.holderOf(word) == firm)) {
                     sum += paidFor(republic, word);
                 }
             }
@@ -984,7 +979,7 @@ public final class WordRents {
                 dearest[rhyme] = NONE;
             }
             for (int word = 0; word < WORDS; word++) {
-                int rhyme = isIn(owed, word) ? republic.rhymeOf(word) : NONE;
+                int rhyme = (owed & 1 << word) != 0 ? republic.rhymeOf(word) : NONE;
                 if (isRhyme(rhyme)
                         && (dearest[rhyme] == NONE || republic.rentOf(word) > republic.rentOf(dearest[rhyme]))) {
                     dearest[rhyme] = word;

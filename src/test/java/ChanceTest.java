@@ -233,13 +233,13 @@ public final class ChanceTest {
 
     private static void imageKeepsAll() {
         WordRents x = WordsTest.fourWords();
-        DUE.lease(x, "2b+.");
+        DUE.lease(x, "2b+3c+.");
         x.far(1, 2, 7);
         x.set(0, 33);
         x.set(1, 4);
         Due.say(x, "bcb");
         x.list();
-        x.seen(0, 2);
+        x.seen(2, 4);
         Due.say(x, "acb");
         x.image(0);
         DUE.is("32: the PAD stays", x.told(0), 3);
@@ -252,10 +252,13 @@ public final class ChanceTest {
         x.forget(0);
         x.forget(1);
         x.seen(3, 200);
+        x.seen(1, 4);
         x.word(4, 0, 0, 0, 0);
         Due.say(x, "ece");
         x.word(2, 1, 0, 0, 0);
         x.list();
+        Due.say(x, "ece");
+        DUE.is("32: two are told since", x.list(), 2);
         Due.say(x, "bcbdb");
         DUE.is("33: all but the PAD", x.restore(0), 1);
         DUE.is("33: the PAD stays as it is", x.told(0), 5);
@@ -272,7 +275,8 @@ public final class ChanceTest {
         DUE.is("33: RENT", x.state(1, 0), 5);
         DUE.is("33: HOLDER", x.state(1, 1), 2);
         DUE.is("33: MEANING", x.state(2, 2), 2);
-        DUE.is("33: the SIGHT's FIRM and set", x.spoke(0, 0), 3);
+        DUE.is("33: the SIGHT's FIRM and set", x.spoke(0, 0), 4);
+        DUE.is("33: none but that SIGHT", x.spoke(1, 0), WordRents.OUTSIDE);
     }
 
     private static void told() {

@@ -53,6 +53,9 @@ public final class DaysTest {
         judge(x, "0a-", WordRents.NONE, WordRents.NONE);
         judge(x, "0av", WordRents.NONE, WordRents.NONE);
         judge(x, "1b^", WordRents.NONE, WordRents.NONE);
+        judge(x, "1b^1bv", WordRents.NONE, WordRents.NONE);
+        judge(x, "1b^1bv1bv", 2, 4);
+        judge(x, "0av0a^0a^", 2, 4);
         x.set(0, 1);
         judge(x, "2c+2c^", WordRents.NONE, WordRents.NONE);
     }
@@ -97,6 +100,7 @@ public final class DaysTest {
         DUE.is("15: HOLDER", x.state(0, 1), 0);
         DUE.is("15: given up", x.state(1, 1), 4);
         DUE.is("15: DAYS", x.told(4), 1);
+        doneKeepsTheRest();
         Due.say(x, "..0a^1a-");
         DUE.is("15: the last can not be", x.done(), WordRents.NO);
         DUE.is("15: then nothing is", x.told(4) * 100 + x.state(0, 0), 112);
@@ -107,6 +111,23 @@ public final class DaysTest {
         Due.say(x, days.toString());
         DUE.is("15: sixty", x.done(), 60);
         DUE.is("15: sixty more", x.told(4), 61);
+    }
+
+    /** LEASES leave the LIST, SIGHTS, FAR, CAP, DRIFT alone. */
+    private static void doneKeepsTheRest() {
+        WordRents x = WordsTest.fourWords();
+        Due.say(x, "bcb");
+        x.list();
+        x.seen(1, 8);
+        x.seen(2, 9);
+        x.far(0, 4, 8);
+        x.set(0, 77);
+        x.set(1, 8);
+        DUE.lease(x, "0a+.");
+        DUE.is("15: the LIST", x.told(5) * 10 + x.held(1), 12);
+        DUE.is("15: SIGHTS", x.told(6), 2);
+        DUE.is("15: FAR", x.told(140), 8);
+        DUE.is("15: CAP and DRIFT", x.told(2) * 10 + x.told(3), 778);
     }
 
     private static void state() {
@@ -189,6 +210,8 @@ public final class DaysTest {
         DUE.is("18: b goes by what a was", x.after(1, 1, 0), 10);
         DUE.is("18: then b goes down", x.after(1, 2, 0), 9);
         DUE.is("18: and a up", x.after(0, 2, 0), 10);
+        DUE.is("19: RENTS change, though not in all", x.settles(), WordRents.NONE);
+        DUE.is("20: and come again", x.round(), 2);
     }
 
     private static void cap() {

@@ -235,6 +235,7 @@ public final class PricesTest {
         x.word(5, 2, 0, 2, 99);
         x.word(4, 0, 0, 3, 99);
         DUE.lease(x, "0h+0g+0f+0e+");
+        said(x, 1, 999, 12, 8, "ege");
         said(x, 1, 98, 0, 0, "");
         said(x, 1, 99, 1, 0, "hgh");
         said(x, 1, 198, 5, 1, "ege");
