@@ -1205,9 +1205,11 @@ public final class WordRents {
         }
     }
 
-    /** The chance that a thing can be said, exactly: by all sets of WORDS that may be had. */
+    /** The chance that a thing can be said, exactly: by all sets of letters that may be drawn. */
     private static final class Chance {
         private final long[] weight = new long[WORDS + 1];
+        private int nouns;
+        private int verbs;
         private long upper;
         private long lower;
 
@@ -1215,30 +1217,34 @@ public final class WordRents {
             weigh(tenths);
             upper = 0;
             lower = power(TENTHS, WORDS);
-            int nouns = republic.wordsOfSort(NOUN);
-            int verbs = republic.wordsOfSort(VERB);
-            for (int had = 0; had <= ALL_WORDS; had++) {
-                boolean can;
-                if (which == 0) {
-                    can = (pad & ~had) == 0;
-                } else if (which == 1) {
-                    can = (nouns & had) != 0 && (verbs & had) != 0;
-                } else {
-                    can = republic.listAllows(had);
-                }
-                upper += can ? weightOf(Integer.bitCount(had)) : 0;
+            nouns = republic.wordsOfSort(NOUN);
+            verbs = republic.wordsOfSort(VERB);
+            for (int drawn = 0; drawn <= ALL_WORDS; drawn++) {
+                // A WORD that is no more can not be had, whatever is drawn for it.
+                int had = drawn & republic.words();
+                upper += canSay(republic, pad, which, had) ? weightOf(Integer.bitCount(drawn)) : 0;
             }
             reduce();
         }
 
-        private long weightOf(int had) {
-            return had >= 0 && had <= WORDS ? weight[had] : 0;
+        private boolean canSay(Republic republic, int pad, int which, int had) {
+            if (which == 0) {
+                return (pad & ~had) == 0;
+            }
+            if (which == 1) {
+                return (nouns & had) != 0 && (verbs & had) != 0;
+            }
+            return republic.listAllows(had);
         }
 
-        /** By how many WORDS are had: the chance of one such set, in parts of ten to the eighth. */
+        private long weightOf(int size) {
+            return size >= 0 && size <= WORDS ? weight[size] : 0;
+        }
+
+        /** By how many letters are drawn: the chance of one such set, in parts of ten to the eighth. */
         private void weigh(int tenths) {
-            for (int had = 0; had <= WORDS; had++) {
-                weight[had] = power(tenths, had) * power(TENTHS - tenths, WORDS - had);
+            for (int size = 0; size <= WORDS; size++) {
+                weight[size] = power(tenths, size) * power(TENTHS - tenths, WORDS - size);
             }
         }
 

@@ -7,6 +7,7 @@ public final class ChanceTest {
         letSentence();
         letSome();
         letOfList();
+        letOfWordsNoMore();
         letRefusals();
         rests();
         restsRefusals();
@@ -80,6 +81,34 @@ public final class ChanceTest {
         let(x, 0, 2, 0, 1);
         // c and (a or b)
         let(x, 1, 2, 19, 1000);
+    }
+
+    /** What needs a WORD that is no more can not be said; the rest of the LIST still can, and all of it once it is back. */
+    private static void letOfWordsNoMore() {
+        WordRents x = WordsTest.fourWords();
+        for (String text : new String[] {"aca", "bcb", "acadb"}) {
+            Due.say(x, text);
+            x.list();
+        }
+        x.image(0);
+        x.strikeOut(3);
+        let(x, 5, 2, 3, 8);
+        x.strikeOut(0);
+        let(x, 5, 2, 1, 4);
+        let(x, 10, 2, 1, 1);
+        x.strikeOut(1);
+        for (int t = 0; t <= 10; t++) {
+            let(x, t, 2, 0, 1);
+        }
+        DUE.is("29: all of it is still told", x.told(5), 3);
+        x.word(0, 0, 4, 3, 99);
+        let(x, 5, 2, 1, 4);
+        x.word(2, 0, 0, 0, 0);
+        let(x, 5, 2, 1, 4);
+        x.strikeOut(2);
+        let(x, 10, 2, 0, 1);
+        x.restore(0);
+        let(x, 5, 2, 3, 8);
     }
 
     private static void letRefusals() {

@@ -89,7 +89,6 @@ public final class ListsTest {
         x.strikeOut(2);
         DUE.is("21: it is still told", x.told(5), 1);
         held(x, 1, 2);
-        DUE.is("29: and has its chance", x.let(5, 2, 1), 4);
     }
 
     private static void strike() {

@@ -590,7 +590,9 @@ final class Model {
         }
         Set<Integer> wanted = new LinkedHashSet<>();
         for (String text : which == 0 ? List.of(pad) : which == 1 ? now.sentences(3) : now.list) {
-            wanted.add(bits(text));
+            if (text.chars().allMatch(c -> now.words.containsKey((char) c))) {
+                wanted.add(bits(text));
+            }
         }
         Map<Integer, Integer> signed = new HashMap<>();
         for (int set : wanted) {
