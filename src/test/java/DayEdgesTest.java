@@ -49,6 +49,7 @@ public final class DayEdgesTest {
         roundAtLast();
         roundTooLate();
         roundNotIfSettled();
+        askedAsItIsNow();
         DUE.end();
     }
 
@@ -599,5 +600,27 @@ public final class DayEdgesTest {
         DUE.is("20: none held", WordsTest.fourWords().round(), NONE);
         DUE.is("20: at once", lonely(99).round(), NONE);
         DUE.is("20: later", lonely(60).round(), NONE);
+    }
+
+    /** What was tried by an earlier call is forgotten: each call goes by what is now, though no LEASES came between. */
+    private static void askedAsItIsNow() {
+        WordRents x = undercut(5);
+        x.strikeOut(1);
+        DUE.is("20: settles, without b", x.round(), NONE);
+        x.word(1, 0, 0, 0, 0);
+        DUE.is("20: goes round with it", x.round(), 2);
+        x.strikeOut(1);
+        DUE.is("19: the 16th DAY", x.settles(), 16);
+        DUE.is("18: up by one", x.after(0, 1, 0), 6);
+        x.word(1, 0, 0, 0, 0);
+        DUE.is("19: not with it", x.settles(), NONE);
+        DUE.is("18: down by one", x.after(0, 1, 0), 4);
+        Due.say(x, ".");
+        DUE.is("17: down by one", x.behind(0, 0), 4);
+        x.strikeOut(1);
+        DUE.is("17: up by one", x.behind(0, 0), 6);
+        DUE.is("31: up by one", x.year(0, 1, 2), 6);
+        DUE.is("15: one DAY", x.done(), 1);
+        DUE.is("16: up by one", x.state(0, 0), 6);
     }
 }
