@@ -156,7 +156,7 @@ public final class LimitsTest {
             boolean ofFar = what >= 100 && what <= 144 && what % 10 <= 4;
             boolean refused = x.told(what) == Edge.OUTSIDE;
             DUE.isTrue("34: " + what + " is told or not", refused != (some || ofWord || ofFar));
-            if (what % 250 == 249) {
+            if (Math.floorMod(what, 250) == 249) {
                 x = Edge.rich(SENTENCE);
             }
         }

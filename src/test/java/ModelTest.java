@@ -1,14 +1,23 @@
 import java.util.Random;
 
-/** Long runs of drawn calls (seeds are told, so each run is the same each time): WordRents answers as the Model does. */
+/**
+ * Drawn runs of 512 calls, all that the document promises of an object (seeds are told, so each run is the same each time):
+ * WordRents answers as the Model does, up to the last call.
+ */
 public final class ModelTest {
-    private static final int RUNS = 120, CALLS = 500;
+    private static final int RUNS = 1600, CALLS = 512;
 
     private final Due due;
     private final Random draw;
     private final WordRents x = new WordRents();
     private final Model m = new Model();
     private final String run;
+    private int calls;
+
+    /** The object has answered its last call: the run ends, wherever it stands. */
+    private static final class LastCall extends RuntimeException {
+        private static final long serialVersionUID = 1L;
+    }
 
     private ModelTest(Due due, int seed) {
         this.due = due;
@@ -19,19 +28,31 @@ public final class ModelTest {
     public static void main(String[] args) {
         Due due = new Due("ModelTest");
         for (int seed = 0; seed < RUNS; seed++) {
-            new ModelTest(due, seed).calls();
+            new ModelTest(due, seed).toTheLastCall();
         }
         due.end();
     }
 
-    private void calls() {
+    private void toTheLastCall() {
+        try {
+            drawCalls();
+        } catch (LastCall end) {
+            due.is(run + "as many calls as are promised", calls, CALLS);
+        }
+    }
+
+    private void drawCalls() {
         int rich = draw.nextInt(3);
         for (int w = 0; w < 8; w++) {
             if (rich > 0 || draw.nextBoolean()) {
                 word(w);
             }
         }
-        for (int i = 0; i < CALLS; i++) {
+        if (rich > 1) {
+            say(firstLeases());
+            due("done()", x.done(), m.done());
+        }
+        while (calls < CALLS) {
             one();
         }
     }
@@ -53,6 +74,10 @@ public final class ModelTest {
 
     private void due(String call, long got, long want) {
         due.is(run + call, got, want);
+        calls++;
+        if (calls == CALLS) {
+            throw new LastCall();
+        }
     }
 
     private void word(int w) {
@@ -84,6 +109,17 @@ public final class ModelTest {
         int length = draw.nextInt(8) == 0 ? draw.nextInt(7) : draw.nextBoolean() ? 3 : 5;
         for (int i = 0; i < length; i++) {
             text.append(draw.nextInt(25) == 0 ? (char) (33 + draw.nextInt(94)) : letterOf(i == 1 ? 1 : i == 3 ? 2 : 0));
+        }
+        return text.toString();
+    }
+
+    /** About half of the WORDS are held from the first on, so that a run need not be long to have something to pay. */
+    private String firstLeases() {
+        StringBuilder text = new StringBuilder();
+        for (int w = 0; w < 8; w++) {
+            if (m.state(w, 1) == 4 && draw.nextBoolean()) {
+                text.append(draw.nextInt(4)).append((char) ('a' + w)).append('+');
+            }
         }
         return text.toString();
     }
@@ -252,7 +288,8 @@ public final class ModelTest {
                 }
             }
             default -> {
-                for (int what = -2; what < 150; what++) {
+                for (int n = 0; n < 12; n++) {
+                    int what = n < 3 ? in(0, 6) : n < 7 ? 10 * in(1, 8) + in(0, 1) : 100 + 10 * in(0, 4) + in(0, 4);
                     due("told(" + what + ")", x.told(what), m.told(what));
                 }
             }
